@@ -156,18 +156,21 @@ public final class PromisesTest {
         PorterTurns x = new PorterTurns();
         x.place(50, 7);
         x.place(20, 10);
+        x.place(20, 42);
         due("5: far", x.way(0, 1, 0), 30);
         due("5: far back", x.way(1, 0, 0), 30);
         due("5: up", x.way(0, 1, 1), 3);
         due("5: down, the rest away", x.way(1, 0, 1), 1);
+        due("5: down, the rest away", x.way(2, 0, 1), 17);
+        due("5: on one height, x alike", x.way(2, 1, 0), 0);
         due("5: minutes up", x.way(0, 1, 2), 30 + 6 + 5);
         due("5: minutes down", x.way(1, 0, 2), 30 + 2 + 5);
         x.rain(0, 1);
         due("5: minutes up in rain", x.way(0, 1, 2), 41 + 20);
         due("5: minutes down in rain", x.way(1, 0, 2), 37 + 18);
         due("5: to itself", x.way(1, 1, 0), BAD);
-        due("5: no place", x.way(2, 1, 0), BAD);
-        due("5: no place", x.way(0, 2, 0), BAD);
+        due("5: no place", x.way(3, 1, 0), BAD);
+        due("5: no place", x.way(0, 3, 0), BAD);
         due("5: no place", x.way(-1, 0, 0), BAD);
         due("5: no place", x.way(0, -1, 0), BAD);
         due("5: what", x.way(0, 1, 3), BAD);
@@ -213,15 +216,18 @@ public final class PromisesTest {
         due("7: another row", x.join(1), 1);
         due("7: to the end", x.join(0), 2);
         due("7: in it", x.join(0), NOT);
+        due("7: in it, first", x.join(2), NOT);
         due("7: order", x.turn(0, 0), 2);
         due("7: order", x.turn(0, 1), 0);
         x.load(1001, 1, 0, 0);
         due("7: sent", x.send(0, 0), 1);
         due("7: not free", x.join(2), NOT);
+        x.minutes(14);
+        due("7: not free yet", x.join(2), NOT);
         x.gone(1);
         due("7: gone", x.join(1), NOT);
         x.fall(0, 2, 1000);
-        x.minutes(15);
+        x.minutes(1);
         x.leave(2);
         due("7: hurt, but free", x.join(2), 2);
     }
@@ -253,7 +259,9 @@ public final class PromisesTest {
         due("9: left the row", x.leave(1), NOT);
         due("9: about", x.about(1, 8), 1);
         due("9: about another", x.about(0, 8), 0);
-        x.minutes(15);
+        x.minutes(14);
+        due("9: not free yet", x.gone(0), NOT);
+        x.minutes(1);
         due("9: free, in the row", x.gone(0), 1);
         due("9: left the row", x.turn(0, 0), BAD);
     }
@@ -474,9 +482,19 @@ public final class PromisesTest {
         x.load(1001, 1, 0, 0);
         x.send(0, 2);
         due("17: those away not", sayOf(x, "men", -1, -1), 1);
-        x.fall(2, 1, 700);
-        x.minutes(15);
+        x.fall(2, 1, x.count(4) + 17);
+        x.minutes(14);
+        due("17: those away not", sayOf(x, "men", -1, -1), 1);
+        x.minutes(2);
         due("17: hurt ones not", sayOf(x, "men", -1, -1), 1);
+        x.minutes(1);
+        due("17: no more hurt", sayOf(x, "men", -1, -1), 2);
+        x.load(1001, 1, 0, 0);
+        x.send(0, 3);
+        x.minutes(14);
+        due("17: not free yet", sayOf(x, "men", -1, -1), 1);
+        x.minutes(1);
+        due("17: free", sayOf(x, "men", -1, -1), 2);
         due("17: a man of no row, of another fellowship's law", sayOf(x, "strength", -1, 2), 77);
         due("17: men of the law's fellowship", Check.law(x, 1, PRICE, 0, "men"), x.count(3) - 1);
         due("17: men of the law's fellowship", x.says(1, PRICE, -1, -1), 0);
@@ -688,37 +706,42 @@ public final class PromisesTest {
 
     private static void sendHours() {
         PorterTurns x = city();
-        x.place(31, 0);
+        x.place(43, 0);
+        x.place(44, 0);
         x.man(0, 99, 59, 0);
         x.man(1, 99, 60, 0);
         x.join(0);
         x.join(1);
-        // A way of 36 minutes up to 6 times within 240, and 13 times within 480.
-        for (int i = 0; i < 14; i++) {
-            x.load(1001, 4, 0, 0);
-            x.load(1001, 4, 0, 0);
-            due("21: hours of one below 60", x.send(0, 2 * i), i < 13 ? 1 : -16);
-            due("21: hours of one of 60", x.send(1, 2 * i + 1), i < 6 ? 1 : -16);
-            x.minutes(36);
+        // The way to PLACE 4 takes 48 minutes, that to 5 one more: 480 are 10 ways of 48, and 240 are 5.
+        int loads = 0;
+        for (int i = 0; i < 11; i++) {
+            int load = loads;
+            for (int to : new int[] {5, 4, 5, 4}) {
+                x.load(1001, to, 0, 0);
+                loads++;
+            }
+            if (i == 9) {
+                due("21: 481 are too much", x.send(0, load), -16);
+            }
+            if (i == 4) {
+                due("21: 241 are too much for one of 60", x.send(1, load + 2), -16);
+            }
+            due("21: up to 480", x.send(0, load + 1), i < 10 ? 1 : -16);
+            due("21: up to 240 for one of 60", x.send(1, load + 3), i < 5 ? 1 : -16);
+            x.minutes(48);
         }
-        due("21: hours", x.about(0, 4), 13 * 36);
-        due("21: a shorter way, up to 480", x.load(1001, 100, 0, 0), 28);
-        due("21: 12 minutes would be left", x.way(1, 0, 2), 15);
-        due("21: 12 minutes would be left", x.send(0, 28), -16);
-        x.place(7, 0);
-        x.load(1001, 5, 0, 0);
-        due("21: 480 is not too much", x.way(0, 5, 2), 12);
-        due("21: 480 is not too much", x.send(0, 29), 1);
+        due("21: HOURS", x.about(0, 4), 480);
+        due("21: HOURS", x.about(1, 4), 240);
         x.minutes(600 - x.count(4));
         due("21: a new DAY", x.about(0, 4), 0);
-        x.load(1001, 4, 0, 0);
-        due("21: a new DAY", x.send(1, 30), 1);
+        due("21: a new DAY", x.send(0, 0), 1);
+        due("21: a new DAY", x.send(1, 2), 1);
     }
 
     private static void sendPaid() {
         PorterTurns x = cityWithMen(10, 10, 10);
         Check.law(x, 0, PRICE, 0, "99999 * 9 if weight = 1; 0 - 5 if weight = 2; 101");
-        Check.law(x, 0, SHARE, 0, "101 if weight = 1; 0 - 1 if weight = 2; 10");
+        Check.law(x, 0, SHARE, 0, "101 if weight = 1; 10");
         Check.law(x, 0, GANG, 0, "3");
         int[] price = {100000, 0, 101, 101};
         int[] paid = {100000, 0, 101, 50};
@@ -748,6 +771,30 @@ public final class PromisesTest {
         x.minutes(15);
         due("21: PRICE as found when sent", x.told(4, 10), 101);
         due("21: SHARE as found when sent", x.fund(0, 0), fund + 10);
+        sendShareBelow();
+        sendPriceAheadOfLeaving();
+    }
+
+    private static void sendShareBelow() {
+        PorterTurns x = cityWithMen(10);
+        Check.law(x, 0, PRICE, 0, "200");
+        Check.law(x, 0, SHARE, 0, "0 - 1");
+        x.load(1001, 1, 0, 99);
+        x.send(0, 0);
+        x.minutes(15);
+        due("21: SHARE 0 at least", x.fund(0, 1), 0);
+        due("21: SHARE 0 at least", x.about(0, 3), 200);
+    }
+
+    private static void sendPriceAheadOfLeaving() {
+        PorterTurns x = cityWithMen(10, 10);
+        Check.law(x, 0, PRICE, 0, "men * 100");
+        Check.law(x, 0, SHARE, 0, "men * 10");
+        x.load(1001, 1, 0, 99);
+        x.send(0, 0);
+        due("21: men are counted as they were when they were sent", x.told(0, 9), 200);
+        x.minutes(15);
+        due("21: men are counted as they were when they were sent", x.fund(0, 1), 40);
     }
 
     private static void sendSkipsThoseThatMayNotGo() {
@@ -959,6 +1006,11 @@ public final class PromisesTest {
         due("27: below 0", x.judged(0, 1, 3, 0), 1);
         due("27: gives 0", Check.law(x, 3, CLAIM, 0, "0"), 4);
         due("27: gives 0", x.judged(0, 1, 3, 0), NOT);
+        due("27: gives 0", x.judged(0, 3, 1, 0), NOT);
+        due("27: gives 1", Check.law(x, 3, CLAIM, 0, "1"), 5);
+        due("27: gives 1", x.judged(0, 1, 3, 0), 1);
+        due("27: gives 1", x.judged(0, 3, 1, 0), 1);
+        due("27: gives 0 again", Check.law(x, 3, CLAIM, 0, "0"), 6);
         x.minutes(1);
         Check.law(x, 3, CLAIM, 0, "99");
         Check.law(x, 2, CLAIM, 1, "1");
@@ -1014,6 +1066,24 @@ public final class PromisesTest {
         due("28: who can't be paid whole gets nothing", x.about(0, 3), 40);
         due("28: the next one may", x.about(4, 3), 20);
         due("28: the last coin", x.fund(0, 0), 0);
+        pensionOfTheFirst();
+    }
+
+    private static void pensionOfTheFirst() {
+        PorterTurns x = city();
+        x.join(x.man(0, 10, 70, 0));
+        x.rates(0, 0, 3);
+        x.load(1100, 1, 0, 99);
+        due("28: sent", x.send(0, 0), -16);
+        x.load(1040, 1, 0, 99);
+        due("28: sent", x.send(0, 1), 1);
+        x.minutes(600);
+        due("28: 2 in the fund are not 3", x.about(0, 3), 38);
+        x.rates(0, 0, 2);
+        x.minutes(600);
+        due("28: PENSION of man 0", x.about(0, 3), 40);
+        x.minutes(600);
+        due("28: once", x.about(0, 3), 40);
     }
 
     /** Sends for a LOAD, which the next man of FELLOWSHIP 0 lets fall, hurt up to a MINUTE. */
