@@ -1,9 +1,20 @@
+import java.io.IOException;
 import java.nio.charset.StandardCharsets;
+import java.nio.file.Files;
+import java.nio.file.Path;
+import java.util.Set;
+import java.util.TreeSet;
 
 /** What the tests of the project share: a count of wrong answers, and texts put on THE TAPE. */
 final class Check {
+    private static final Path DOCUMENT = Path.of("../shared/DOC.md");
+
     private static int wrong = 0;
     private static int asked = 0;
+    private static int sentences = 0;
+    private static String heading = "";
+    private static final Set<Integer> PROMISES = new TreeSet<>();
+    private static final String WORDS = wordsOfTheDocument();
 
     private Check() {
     }
@@ -12,14 +23,41 @@ final class Check {
         asked++;
         if (got != want) {
             wrong++;
-            System.out.println(call + " answered " + got + ", due is " + want);
+            System.out.println(heading + call + " answered " + got + ", due is " + want);
+        }
+    }
+
+    /** What is asked from here on is held against this sentence, which must stand in the document as it is quoted. */
+    static void sentence(int promise, String quoted) {
+        sentences++;
+        PROMISES.add(promise);
+        heading = "";
+        due("'" + quoted + "' stands in the document", WORDS.isEmpty() || WORDS.contains(quoted) ? 1 : 0, 1);
+        heading = "promise " + promise + ", '" + quoted + "': ";
+    }
+
+    /** That a sentence was held of each promise. */
+    static void allPromisesNamed() {
+        heading = "";
+        for (int promise = 1; promise <= 31; promise++) {
+            due("a sentence of promise " + promise, PROMISES.contains(promise) ? 1 : 0, 1);
         }
     }
 
     static void finish() {
-        System.out.println(asked + " answers, " + wrong + " of them not as due");
+        System.out.println((sentences > 0 ? sentences + " sentences, " : "") + asked + " answers, " + wrong
+                + " of them not as due");
         if (wrong != 0) {
             System.exit(1);
+        }
+    }
+
+    /** One blank for each gap; empty where the document is not at hand: then quotes are not looked up. */
+    private static String wordsOfTheDocument() {
+        try {
+            return Files.exists(DOCUMENT) ? Files.readString(DOCUMENT).replaceAll("\\s+", " ") : "";
+        } catch (IOException unreadable) {
+            return "";
         }
     }
 
@@ -52,5 +90,10 @@ final class Check {
         for (int left = minutes; left > 0; left -= 600) {
             x.minutes(Math.min(left, 600));
         }
+    }
+
+    /** Lets MINUTES go by up to one. */
+    static void passTo(PorterTurns x, int minute) {
+        pass(x, minute - x.count(4));
     }
 }

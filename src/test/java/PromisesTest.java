@@ -42,25 +42,6 @@ public final class PromisesTest {
         Check.due(call, got, want);
     }
 
-    /** PLACES 0 (0, 0), 1 (10, 0), 2 (0, 10), 3 (99, 99): 0 to 1 takes 15 minutes. */
-    private static PorterTurns city() {
-        PorterTurns x = new PorterTurns();
-        x.place(0, 0);
-        x.place(10, 0);
-        x.place(0, 10);
-        x.place(99, 99);
-        return x;
-    }
-
-    /** A city with men of FELLOWSHIP 0, of AGE 30, in the row. */
-    private static PorterTurns cityWithMen(int... strengths) {
-        PorterTurns x = city();
-        for (int strength : strengths) {
-            x.join(x.man(0, strength, 30, 0));
-        }
-        return x;
-    }
-
     // 1
     private static void newObject() {
         PorterTurns x = new PorterTurns();
@@ -97,7 +78,7 @@ public final class PromisesTest {
 
     // 3
     private static void tide() {
-        PorterTurns x = cityWithMen(99);
+        PorterTurns x = City.withMen(99);
         due("3: no place", x.tide(4, 0, 1), BAD);
         due("3: no place", x.tide(-1, 0, 1), BAD);
         due("3: from below 0", x.tide(0, -1, 1), BAD);
@@ -128,7 +109,7 @@ public final class PromisesTest {
 
     // 4
     private static void rain() {
-        PorterTurns x = city();
+        PorterTurns x = City.plain();
         due("4: to is not later", x.rain(5, 5), BAD);
         due("4: to too late", x.rain(0, 100001), BAD);
         due("4: from below now", x.rain(-1, 5), BAD);
@@ -205,7 +186,7 @@ public final class PromisesTest {
 
     // 7
     private static void join() {
-        PorterTurns x = city();
+        PorterTurns x = City.plain();
         due("7: no man", x.join(0), BAD);
         x.man(0, 10, 30, 0);
         x.man(1, 10, 30, 0);
@@ -234,7 +215,7 @@ public final class PromisesTest {
 
     // 8
     private static void leave() {
-        PorterTurns x = cityWithMen(1, 2, 3);
+        PorterTurns x = City.withMen(1, 2, 3);
         due("8: no man", x.leave(3), BAD);
         due("8: no man", x.leave(-1), BAD);
         due("8: leaves", x.leave(1), 1);
@@ -247,7 +228,7 @@ public final class PromisesTest {
 
     // 9
     private static void gone() {
-        PorterTurns x = cityWithMen(10, 20);
+        PorterTurns x = City.withMen(10, 20);
         due("9: no man", x.gone(2), BAD);
         due("9: no man", x.gone(-1), BAD);
         x.load(1001, 1, 0, 0);
@@ -268,7 +249,7 @@ public final class PromisesTest {
 
     // 10
     private static void about() {
-        PorterTurns x = city();
+        PorterTurns x = City.plain();
         x.minutes(5);
         x.man(2, 33, 44, 0);
         due("10: no man", x.about(1, 0), -2);
@@ -309,7 +290,7 @@ public final class PromisesTest {
 
     // 11
     private static void turn() {
-        PorterTurns x = cityWithMen(1, 2);
+        PorterTurns x = City.withMen(1, 2);
         due("11: first", x.turn(0, 0), 0);
         due("11: second", x.turn(0, 1), 1);
         due("11: beyond", x.turn(0, 2), BAD);
@@ -321,7 +302,7 @@ public final class PromisesTest {
 
     // 12
     private static void dice() {
-        PorterTurns x = cityWithMen(20, 20, 20, 20, 20);
+        PorterTurns x = City.withMen(20, 20, 20, 20, 20);
         due("12: fellowship", x.dice(4, 0, 0), BAD);
         due("12: fellowship", x.dice(-1, 0, 0), BAD);
         due("12: is", x.dice(0, 2, 0), BAD);
@@ -444,7 +425,7 @@ public final class PromisesTest {
 
     // 17
     private static void says() {
-        PorterTurns x = cityWithMen(10, 20);
+        PorterTurns x = City.withMen(10, 20);
         x.man(0, 77, 55, 0);
         x.load(3456, 203, 789, 605);
         int[] without = {0, 456, 1, 0, 5};
@@ -516,7 +497,7 @@ public final class PromisesTest {
 
     // 18
     private static void load() {
-        PorterTurns x = city();
+        PorterTurns x = City.plain();
         due("18: kind", x.load(5001, 1, 0, 0), BAD);
         due("18: weight", x.load(1000, 1, 0, 0), BAD);
         due("18: weight", x.load(0, 1, 0, 0), BAD);
@@ -547,7 +528,7 @@ public final class PromisesTest {
 
     // 19
     private static void whose() {
-        PorterTurns x = city();
+        PorterTurns x = City.plain();
         x.load(2100, 1, 0, 0);
         x.load(3100, 1, 0, 0);
         due("19: no load", x.whose(2), BAD);
@@ -571,7 +552,7 @@ public final class PromisesTest {
 
     // 20
     private static void why() {
-        PorterTurns x = cityWithMen(20, 4);
+        PorterTurns x = City.withMen(20, 4);
         due("20: no load", x.why(0, 0), BAD);
         x.load(97, 1, 0, 0);
         due("20: no load", x.why(0, 1), BAD);
@@ -599,7 +580,7 @@ public final class PromisesTest {
     }
 
     private static void whyOfMen() {
-        PorterTurns x = cityWithMen(1, 1, 1, 1, 1, 1, 1, 1, 99);
+        PorterTurns x = City.withMen(1, 1, 1, 1, 1, 1, 1, 1, 99);
         x.load(1032, 1, 0, 0);
         x.load(1033, 1, 0, 0);
         x.load(1032, 2, 0, 0);
@@ -623,7 +604,7 @@ public final class PromisesTest {
     }
 
     private static void whyByDice() {
-        PorterTurns x = cityWithMen(1, 1, 1, 1, 1, 1, 1, 1, 99);
+        PorterTurns x = City.withMen(1, 1, 1, 1, 1, 1, 1, 1, 99);
         x.dice(0, 1, 5);
         x.load(1033, 1, 0, 0);
         due("20: as if by list", x.why(0, 0), 6);
@@ -635,7 +616,7 @@ public final class PromisesTest {
 
     // 21
     private static void send() {
-        PorterTurns x = cityWithMen(10, 20, 30, 40);
+        PorterTurns x = City.withMen(10, 20, 30, 40);
         due("21: no load", x.send(0, 0), BAD);
         x.load(1240, 1, 0, 100);
         due("21: no load", x.send(0, -1), BAD);
@@ -664,7 +645,7 @@ public final class PromisesTest {
     }
 
     private static void sendRefused() {
-        PorterTurns x = cityWithMen(20, 4);
+        PorterTurns x = City.withMen(20, 4);
         x.load(97, 1, 0, 0);
         x.dice(0, 1, 3);
         due("21: 6", x.send(0, 0), -16);
@@ -685,7 +666,7 @@ public final class PromisesTest {
     }
 
     private static void sendRowEnd() {
-        PorterTurns x = cityWithMen(10, 10, 10);
+        PorterTurns x = City.withMen(10, 10, 10);
         x.load(1001, 1, 0, 100);
         x.load(1001, 1, 0, 100);
         x.send(0, 1);
@@ -705,7 +686,7 @@ public final class PromisesTest {
     }
 
     private static void sendHours() {
-        PorterTurns x = city();
+        PorterTurns x = City.plain();
         x.place(43, 0);
         x.place(44, 0);
         x.man(0, 99, 59, 0);
@@ -739,7 +720,7 @@ public final class PromisesTest {
     }
 
     private static void sendPaid() {
-        PorterTurns x = cityWithMen(10, 10, 10);
+        PorterTurns x = City.withMen(10, 10, 10);
         Check.law(x, 0, PRICE, 0, "99999 * 9 if weight = 1; 0 - 5 if weight = 2; 101");
         Check.law(x, 0, SHARE, 0, "101 if weight = 1; 10");
         Check.law(x, 0, GANG, 0, "3");
@@ -776,7 +757,7 @@ public final class PromisesTest {
     }
 
     private static void sendShareBelow() {
-        PorterTurns x = cityWithMen(10);
+        PorterTurns x = City.withMen(10);
         Check.law(x, 0, PRICE, 0, "200");
         Check.law(x, 0, SHARE, 0, "0 - 1");
         x.load(1001, 1, 0, 99);
@@ -787,7 +768,7 @@ public final class PromisesTest {
     }
 
     private static void sendPriceAheadOfLeaving() {
-        PorterTurns x = cityWithMen(10, 10);
+        PorterTurns x = City.withMen(10, 10);
         Check.law(x, 0, PRICE, 0, "men * 100");
         Check.law(x, 0, SHARE, 0, "men * 10");
         x.load(1001, 1, 0, 99);
@@ -798,7 +779,7 @@ public final class PromisesTest {
     }
 
     private static void sendSkipsThoseThatMayNotGo() {
-        PorterTurns x = cityWithMen(50, 50);
+        PorterTurns x = City.withMen(50, 50);
         x.load(1001, 1, 0, 0);
         x.send(0, 0);
         x.fall(0, 0, 16);
@@ -822,7 +803,7 @@ public final class PromisesTest {
 
     // 22
     private static void off() {
-        PorterTurns x = cityWithMen(99);
+        PorterTurns x = City.withMen(99);
         due("22: no load", x.off(0), BAD);
         x.load(1001, 1, 0, 0);
         x.load(1001, 1, 0, 0);
@@ -841,7 +822,7 @@ public final class PromisesTest {
 
     // 23
     private static void fall() {
-        PorterTurns x = cityWithMen(10, 10, 10);
+        PorterTurns x = City.withMen(10, 10, 10);
         due("23: no load", x.fall(0, -1, 0), BAD);
         Check.law(x, 0, PRICE, 0, "40");
         Check.law(x, 0, SHARE, 0, "0");
@@ -891,7 +872,7 @@ public final class PromisesTest {
 
     // 24
     private static void told() {
-        PorterTurns x = cityWithMen(10, 10);
+        PorterTurns x = City.withMen(10, 10);
         x.minutes(3);
         due("24: no load", x.told(0, 0), -2);
         x.load(4080, 1, 55, 66);
@@ -925,7 +906,7 @@ public final class PromisesTest {
 
     // 25
     private static void gang() {
-        PorterTurns x = cityWithMen(10, 20, 30);
+        PorterTurns x = City.withMen(10, 20, 30);
         x.load(1110, 1, 0, 0);
         due("25: none yet", x.gang(0, 0), BAD);
         x.send(0, 0);
@@ -959,7 +940,7 @@ public final class PromisesTest {
 
     /** At 600: HOURS are 0 first, THE FUND pays next, what comes in at that MINUTE comes behind. */
     private static void minutesOrder() {
-        PorterTurns x = cityWithMen(10);
+        PorterTurns x = City.withMen(10);
         x.man(0, 10, 70, 0);
         x.rates(0, 0, 5);
         Check.law(x, 0, PRICE, 0, "100");
@@ -979,7 +960,7 @@ public final class PromisesTest {
 
     // 27
     private static void judged() {
-        PorterTurns x = city();
+        PorterTurns x = City.plain();
         x.minutes(599);
         due("27: no load", x.judged(0, 0, 1, 0), BAD);
         x.load(1050, 1, 0, 0);
@@ -1029,7 +1010,7 @@ public final class PromisesTest {
 
     // 28
     private static void rates() {
-        PorterTurns x = cityWithMen(10, 10, 10);
+        PorterTurns x = City.withMen(10, 10, 10);
         due("28: fellowship", x.rates(4, 0, 0), BAD);
         due("28: fellowship", x.rates(-1, 0, 0), BAD);
         due("28: help", x.rates(0, -1, 0), BAD);
@@ -1070,7 +1051,7 @@ public final class PromisesTest {
     }
 
     private static void pensionOfTheFirst() {
-        PorterTurns x = city();
+        PorterTurns x = City.plain();
         x.join(x.man(0, 10, 70, 0));
         x.rates(0, 0, 3);
         x.load(1100, 1, 0, 99);
@@ -1095,7 +1076,7 @@ public final class PromisesTest {
 
     // 29
     private static void foretold() {
-        PorterTurns x = cityWithMen(10, 10);
+        PorterTurns x = City.withMen(10, 10);
         due("29: fellowship", x.foretold(4), BAD);
         due("29: fellowship", x.foretold(-1), BAD);
         due("29: nobody to pay", x.foretold(0), NOT);
@@ -1146,7 +1127,7 @@ public final class PromisesTest {
     }
 
     private static void foretoldHurt() {
-        PorterTurns x = cityWithMen(10, 10);
+        PorterTurns x = City.withMen(10, 10);
         Check.law(x, 0, PRICE, 0, "20");
         Check.law(x, 0, SHARE, 0, "100");
         x.load(1001, 1, 0, 100);
@@ -1155,7 +1136,7 @@ public final class PromisesTest {
         x.rates(0, 10, 0);
         hurt(x, 1, 1800);
         due("29: DAYS 1 and 2, not DAY 3", x.foretold(0), NOT);
-        PorterTurns y = cityWithMen(10, 10);
+        PorterTurns y = City.withMen(10, 10);
         Check.law(y, 0, PRICE, 0, "20");
         Check.law(y, 0, SHARE, 0, "100");
         y.load(1001, 1, 0, 100);
@@ -1168,7 +1149,7 @@ public final class PromisesTest {
     }
 
     private static void foretoldLimits() {
-        PorterTurns x = cityWithMen(10);
+        PorterTurns x = City.withMen(10);
         x.man(0, 10, 70, 0);
         Check.law(x, 0, SHARE, 0, "100");
         Check.law(x, 0, PRICE, 0, "399 if weight = 1; 400");
@@ -1177,7 +1158,7 @@ public final class PromisesTest {
         x.minutes(15);
         x.rates(0, 0, 1);
         due("29: the 400th day", x.foretold(0), 400);
-        PorterTurns y = cityWithMen(10);
+        PorterTurns y = City.withMen(10);
         y.man(0, 10, 70, 0);
         Check.law(y, 0, SHARE, 0, "100");
         Check.law(y, 0, PRICE, 0, "400");
@@ -1186,7 +1167,7 @@ public final class PromisesTest {
         y.minutes(15);
         y.rates(0, 0, 1);
         due("29: the 401st is too far", y.foretold(0), NOT);
-        PorterTurns z = cityWithMen(10);
+        PorterTurns z = City.withMen(10);
         z.man(0, 10, 70, 0);
         Check.law(z, 0, SHARE, 0, "100");
         Check.law(z, 0, PRICE, 0, "99999 * 2");
@@ -1204,7 +1185,7 @@ public final class PromisesTest {
 
     // 30
     private static void fund() {
-        PorterTurns x = cityWithMen(10);
+        PorterTurns x = City.withMen(10);
         due("30: fellowship", x.fund(4, 0), BAD);
         due("30: fellowship", x.fund(-1, 0), BAD);
         due("30: what", x.fund(0, 3), BAD);
@@ -1224,7 +1205,7 @@ public final class PromisesTest {
 
     // 31
     private static void count() {
-        PorterTurns x = cityWithMen(10, 10, 10);
+        PorterTurns x = City.withMen(10, 10, 10);
         due("31: what", x.count(-1), BAD);
         due("31: what", x.count(12), BAD);
         for (int i = 0; i < 7; i++) {
