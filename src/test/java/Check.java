@@ -11,9 +11,10 @@ final class Check {
 
     private static int wrong = 0;
     private static int asked = 0;
-    private static int sentences = 0;
     private static String heading = "";
     private static final Set<Integer> PROMISES = new TreeSet<>();
+    /** Each sentence once for each promise, however often it was held. */
+    private static final Set<String> SENTENCES = new TreeSet<>();
     private static final String WORDS = wordsOfTheDocument();
 
     private Check() {
@@ -29,7 +30,7 @@ final class Check {
 
     /** What is asked from here on is held against this sentence, which must stand in the document as it is quoted. */
     static void sentence(int promise, String quoted) {
-        sentences++;
+        SENTENCES.add(promise + " " + quoted);
         PROMISES.add(promise);
         heading = "";
         due("'" + quoted + "' stands in the document", WORDS.isEmpty() || WORDS.contains(quoted) ? 1 : 0, 1);
@@ -45,7 +46,7 @@ final class Check {
     }
 
     static void finish() {
-        System.out.println((sentences > 0 ? sentences + " sentences, " : "") + asked + " answers, " + wrong
+        System.out.println((SENTENCES.isEmpty() ? "" : SENTENCES.size() + " sentences, ") + asked + " answers, " + wrong
                 + " of them not as due");
         if (wrong != 0) {
             System.exit(1);
