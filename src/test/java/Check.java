@@ -2,8 +2,11 @@ import java.io.IOException;
 import java.nio.charset.StandardCharsets;
 import java.nio.file.Files;
 import java.nio.file.Path;
+import java.util.BitSet;
 import java.util.Set;
 import java.util.TreeSet;
+import java.util.regex.Matcher;
+import java.util.regex.Pattern;
 
 /** What the tests of the project share: a count of wrong answers, and texts put on THE TAPE. */
 final class Check {
@@ -42,6 +45,39 @@ final class Check {
         heading = "";
         for (int promise = 1; promise <= 31; promise++) {
             due("a sentence of promise " + promise, PROMISES.contains(promise) ? 1 : 0, 1);
+        }
+    }
+
+    /** That no words between the document's first rule and its last promise stand outside all sentences held. */
+    static void allWordsHeld() {
+        heading = "";
+        if (WORDS.isEmpty()) {
+            return;
+        }
+        BitSet held = new BitSet(WORDS.length());
+        held.set(0, WORDS.indexOf("MINUTE is a count"));
+        held.set(WORDS.indexOf("## Not promised"), WORDS.length());
+        // The face is LanguageTest's; what the interface says ahead of calls, and headings, promise nothing.
+        markAll(held, "An object is used for at most 512 calls.*## Terms");
+        markAll(held, "Ahead of the calls .*? the interface says: ---- [a-z -]+\\.");
+        markAll(held, "## Promise \\d+: [A-Za-z ]+`[^`]+`:");
+        markAll(held, "```(text)?|======== \\d");
+        for (String sentence : SENTENCES) {
+            markAll(held, Pattern.quote(sentence.substring(sentence.indexOf(' ') + 1)));
+        }
+        Matcher word = Pattern.compile("[A-Za-z0-9]+").matcher(WORDS);
+        while (word.find()) {
+            if (!held.get(word.start())) {
+                due("a sentence with the word '" + word.group() + "' of '"
+                        + WORDS.substring(Math.max(0, word.start() - 30), word.end()) + "'", 0, 1);
+            }
+        }
+    }
+
+    private static void markAll(BitSet held, String pattern) {
+        Matcher found = Pattern.compile(pattern).matcher(WORDS);
+        while (found.find()) {
+            held.set(found.start(), found.end());
         }
     }
 

@@ -1,4 +1,7 @@
-/** Each sentence of the document that names a boundary, by itself, under the promise that it belongs to. */
+/**
+ * Each sentence of the document by itself, under the promise that it belongs to: where it names a boundary, at that one.
+ * No words of it are left out.
+ */
 public final class EdgesTest {
     public static void main(String[] args) {
         CityEdges.run();
@@ -10,7 +13,9 @@ public final class EdgesTest {
         MinuteEdges.run();
         FundEdges.run();
         RefusedEdges.run();
+        PlainSentences.run();
         Check.allPromisesNamed();
+        Check.allWordsHeld();
         Check.finish();
     }
 }
