@@ -11,7 +11,6 @@ import java.util.regex.Matcher;
 import java.util.regex.Pattern;
 import java.util.stream.Collectors;
 import java.util.stream.Stream;
-import javax.tools.ToolProvider;
 
 /** README.md: its examples answer what they say, and it names each call, the tests and how to run them. */
 public final class ReadmeTest {
@@ -76,8 +75,8 @@ public final class ReadmeTest {
     private static List<?> answers(String source) throws Exception {
         Path room = Files.createTempDirectory("readme");
         Path file = Files.writeString(room.resolve("Examples.java"), source);
-        int failed = ToolProvider.getSystemJavaCompiler().run(null, null, null, "-cp",
-                System.getProperty("java.class.path"), "-d", room.toString(), file.toString());
+        int failed = new ProcessBuilder("javac", "--release", "17", "-cp", System.getProperty("java.class.path"), "-d",
+                room.toString(), file.toString()).inheritIO().start().waitFor();
         List<?> got = List.of();
         if (failed == 0) {
             try (URLClassLoader loader = new URLClassLoader(new URL[] {room.toUri().toURL()})) {
